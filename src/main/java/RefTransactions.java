@@ -392,8 +392,9 @@ public final class RefTransactions {
 
     private void takeCommitStep(int slot) {
         int first = slot * MAX_UPDATES;
+        int updates = slotUpdates[slot];
         // add refuses a ref named twice, so no entry's old value is one that this loop wrote.
-        for (int i = 0; i < slotUpdates[slot]; i++) {
+        for (int i = 0; i < updates; i++) {
             int ref = updateRef[first + i];
             int newValue = updateNew[first + i];
             appendToLog(ref, refValue[ref], newValue);

@@ -2,6 +2,9 @@ import java.util.function.IntSupplier;
 
 /** What the tests share: comparing answers, reading the whole visible state, and short ways into a state. */
 final class Check {
+    /** The ends of the int range, and the numbers at and beside each least and greatest of the document. */
+    static final int[] EDGES = {Integer.MIN_VALUE, Integer.MIN_VALUE + 1, -2, -1, 0, 1, 2, 3, 4, 5, 7, 8, 9, 15, 16, 17,
+        31, 32, 33, Integer.MAX_VALUE - 1, Integer.MAX_VALUE};
     private static final int PATIENCE_MILLIS = 120_000;
     private static int wrong = 0;
 

@@ -32,6 +32,7 @@ public final class LanguageTest {
         String code = text.replaceAll("(?s)/\\*.*?\\*/", "").replaceAll("//[^\n]*", "");
         forbiddenWords(code);
         arraysAndFields(code);
+        loops(code);
         methods(code);
         Check.end();
     }
@@ -49,11 +50,28 @@ public final class LanguageTest {
         int made = count(code, "\\bnew\\b");
         int asFields = count(code, "(?m)^ {4}private final \\w+\\[\\] \\w+ = new \\w+\\[(?:[A-Z_]+|[1-9]\\d*)\\];$");
         Check.due("arrays made outside a field's initialiser", made - asFields, 0);
+        Check.due("arrays named elsewhere than in a field", count(code, "\\[\\]") - asFields, 0);
         int statics = count(code, "(?m)^ {4}(?:public|private) static [^(\n]*;$");
         int constants = count(code, "(?m)^ {4}(?:public|private) static final (?:int|long) [A-Z_]+ = [-A-Z_*+0-9 ]+;$");
         Check.due("static fields that are no constants", statics - constants, 0);
         int fields = count(code, "(?m)^ {4}private (?!static)[^(\n]*;$");
         Check.due("fields above the limit", Math.max(0, fields - MOST_FIELDS), 0);
+    }
+
+    /** Stricter than rule 8, so that the text alone shows each loop's end: one counter from 0 against one bound. */
+    private static void loops(String code) {
+        Check.due("while and do loops", count(code, "\\b(?:while|do)\\b"), 0);
+        Matcher loop = Pattern.compile("\\bfor \\(int (\\w+) = 0; \\1 < (\\w+)(?: &&[^;]*)?; \\1\\+\\+\\) \\{").matcher(code);
+        int ended = 0;
+        while (loop.find()) {
+            ended++;
+            String body = code.substring(loop.end(), closing(code, loop.end(), '{', '}'));
+            for (String name : List.of(loop.group(1), loop.group(2))) {
+                Check.due("changes of " + name + " inside its loop", count(body,
+                    "\\b" + name + "(?:\\+\\+|--| [-+*/%&|^]?=(?!=))|(?:\\+\\+|--)" + name + "\\b"), 0);
+            }
+        }
+        Check.due("loops whose end is not seen", count(code, "\\bfor\\b") - ended, 0);
     }
 
     private static void methods(String code) {
@@ -111,19 +129,19 @@ public final class LanguageTest {
         Matcher call = CALL.matcher(body);
         while (call.find()) {
             if (!WORDS.contains(call.group(1))) {
-                int end = closing(body, call.end());
+                int end = closing(body, call.end(), '(', ')');
                 Check.due("calls inside the arguments of " + call.group(1) + " in " + name,
                     calls(body.substring(call.end(), end)).size(), 0);
             }
         }
     }
 
-    private static int closing(String body, int from) {
+    private static int closing(String body, int from, char opener, char closer) {
         int open = 1;
         int at = from;
         while (open > 0) {
             char c = body.charAt(at);
-            open += c == '(' ? 1 : c == ')' ? -1 : 0;
+            open += c == opener ? 1 : c == closer ? -1 : 0;
             at++;
         }
         return at - 1;

@@ -3,11 +3,15 @@ public final class Promise02BeginTest {
     public static void main(String[] args) {
         Check.start();
         takesFreeSlotsInOrder();
+        fullForEveryNumberOfSlots();
+        fullAtEveryStepOfATransaction();
+        fullDuringAPack();
         takesEveryEndedStatus();
         neverTakesASlotInUse();
         takesTheLowestEndedSlot();
         changesNothingElse();
-        forgetsEarlierUpdates();
+        earlierUpdatesAreGone();
+        heldRefsStayHeld();
         worksDuringAPack();
         refusedWhileCrashed();
         Check.end();
@@ -22,51 +26,72 @@ public final class Promise02BeginTest {
         Check.refused("begin()", x, x::begin, RefTransactions.ERR_FULL);
     }
 
-    private static void takesEveryEndedStatus() {
+    /** "no slot has status FREE, DONE or ABORTED_* -> ERR_FULL", and one ended slot is enough again. */
+    private static void fullForEveryNumberOfSlots() {
+        for (int slots = 1; slots <= 4; slots++) {
+            for (int ended = 0; ended < slots; ended++) {
+                RefTransactions x = new RefTransactions(4, 8, slots);
+                for (int n = 0; n < slots; n++) {
+                    x.begin();
+                }
+                Check.refused("begin() of " + slots + " OPEN slots", x, x::begin, RefTransactions.ERR_FULL);
+                x.abort(ended);
+                Check.due("begin() with slot " + ended + " ended", x.begin(), ended);
+                Check.refused("begin() once more", x, x::begin, RefTransactions.ERR_FULL);
+            }
+        }
+    }
+
+    private static void fullAtEveryStepOfATransaction() {
+        RefTransactions x = new RefTransactions(4, 8, 1);
+        Check.open(x, 1, 0, 1, 2);
+        Check.refused("begin() beside OPEN", x, x::begin, RefTransactions.ERR_FULL);
+        x.commit(0);
+        for (int step = 0; step < 8; step++) {
+            Check.refused("begin() at step " + step, x, x::begin, RefTransactions.ERR_FULL);
+            x.run(0, 1);
+        }
+        Check.due("begin() after the finish step", x.begin(), 0);
+    }
+
+    private static void fullDuringAPack() {
         RefTransactions x = new RefTransactions(4, 8, 2);
-        reopens(x, Check.done(x, 7, 0, 1), RefTransactions.DONE);
-
-        x = new RefTransactions(4, 8, 2);
-        int slot = Check.locking(x, 7, 0, 1);
-        x.run(slot, 1);
-        x.abort(slot);
-        reopens(x, slot, RefTransactions.ABORTED_USER);
-
-        x = new RefTransactions(4, 8, 2);
-        slot = Check.locking(x, 7, 0, 1);
-        x.run(slot, 2);
-        x.crash();
-        x.recover();
-        reopens(x, slot, RefTransactions.ABORTED_CRASH);
-
-        x = new RefTransactions(4, 8, 2);
-        slot = Check.open(x, 7, 0);
-        x.add(slot, 1, 5, 6);
-        x.commit(slot);
-        x.run(slot, 2);
-        reopens(x, slot, RefTransactions.ABORTED_MISMATCH);
-
-        x = new RefTransactions(4, 8, 2);
-        slot = Check.locking(x, 7, 0, 1);
-        int holder = Check.locking(x, 8, 1);
-        x.run(holder, 1);
-        x.run(slot, 2);
-        reopens(x, slot, RefTransactions.ABORTED_LOCKED);
+        Check.open(x, 1, 0);
+        Check.open(x, 1, 1);
+        x.packStart();
+        x.commit(1);
+        for (int n = 0; n < RefTransactions.PACK_STEPS; n++) {
+            Check.refused("begin() at pack step " + n, x, x::begin, RefTransactions.ERR_FULL);
+            x.packRun(1);
+        }
     }
 
-    private static void reopens(RefTransactions x, int slot, int status) {
-        Check.due("status before begin", x.status(slot), status);
-        Check.due("begin() on status " + status, x.begin(), slot);
-        Check.same("the slot after status " + status, Check.slot(x, slot),
-            Check.slotText(slot, RefTransactions.OPEN, 0, 0));
+    /** "the lowest-numbered slot whose status is FREE, DONE or ABORTED_* gets 0 updates, stepsDone 0 and status OPEN" */
+    private static void takesEveryEndedStatus() {
+        reopens(Stores.slotIn(RefTransactions.FREE));
+        for (int status : Stores.ENDED) {
+            RefTransactions x = Stores.slotIn(status);
+            Check.due("updateCount(0) before begin", x.updateCount(0), 2);
+            Check.due("stepsDone(0) before begin", x.stepsDone(0), status == RefTransactions.DONE ? 6 : 1);
+            reopens(x);
+        }
     }
 
+    private static void reopens(RefTransactions x) {
+        String before = Check.slot(x, 0);
+        String due = Check.view(x).replace(before, Check.slotText(0, RefTransactions.OPEN, 0, 0));
+        Check.due("begin() on" + before, x.begin(), 0);
+        Check.same("after begin on" + before, Check.view(x), due);
+    }
+
+    /** "Slots that are OPEN, LOCKING or COMMITTED are never chosen." */
     private static void neverTakesASlotInUse() {
-        RefTransactions x = new RefTransactions(8, 8, 3);
+        RefTransactions x = new RefTransactions(8, 8, 4);
         Check.open(x, 1, 0);
         Check.locking(x, 2, 1);
         Check.committed(x, 3, 2);
-        Check.refused("begin() with OPEN, LOCKING, COMMITTED", x, x::begin, RefTransactions.ERR_FULL);
+        Check.due("begin() above OPEN, LOCKING, COMMITTED", x.begin(), 3);
+        Check.refused("begin() with OPEN, LOCKING, COMMITTED, OPEN", x, x::begin, RefTransactions.ERR_FULL);
     }
 
     private static void takesTheLowestEndedSlot() {
@@ -79,8 +104,15 @@ public final class Promise02BeginTest {
         Check.due("begin()", x.begin(), 1);
         Check.due("begin()", x.begin(), 3);
         Check.due("begin()", x.begin(), RefTransactions.ERR_FULL);
+
+        RefTransactions y = new RefTransactions(8, 8, 4);
+        Check.open(y, 1, 0);
+        Check.done(y, 1, 1);
+        Check.due("begin() with OPEN, DONE, FREE, FREE", y.begin(), 1);
+        Check.due("begin() with OPEN, OPEN, FREE, FREE", y.begin(), 2);
     }
 
+    /** "Nothing else changes: no value, no reflog entry, no other slot, no pack state." */
     private static void changesNothingElse() {
         RefTransactions x = Check.busyStore();
         String due = Check.view(x).replace(Check.slotText(0, RefTransactions.DONE, 6, 2),
@@ -89,23 +121,49 @@ public final class Promise02BeginTest {
         Check.same("after begin", Check.view(x), due);
     }
 
-    private static void forgetsEarlierUpdates() {
-        RefTransactions x = new RefTransactions(4, 8, 1);
-        Check.done(x, 7, 0, 1, 2, 3);
-        Check.due("begin()", x.begin(), 0);
-        Check.due("commit of no updates", x.commit(0), RefTransactions.ERR_EMPTY);
-        Check.due("add of a ref named before", x.add(0, 3, 10, 11), RefTransactions.OK);
-        x.commit(0);
-        Check.due("run", x.run(0, 10), 4);
-        Check.same("the values", Check.values(x), "values 7 8 9 11");
+    /** "Its earlier updates are gone." */
+    private static void earlierUpdatesAreGone() {
+        for (int status : Stores.ENDED) {
+            RefTransactions x = Stores.slotIn(status);
+            int had = x.value(1);
+            x.begin();
+            Check.refused("commit after begin on " + status, x, () -> x.commit(0), RefTransactions.ERR_EMPTY);
+            Check.due("add of a ref named before", x.add(0, 1, had, 99), RefTransactions.OK);
+            x.commit(0);
+            Check.due("run of the one new update", x.run(0, 10), 4);
+            Check.due("value(1)", x.value(1), 99);
+            Check.due("value(0)", x.value(0), status == RefTransactions.DONE ? 10 : 0);
+        }
+        RefTransactions y = new RefTransactions(4, 8, 1);
+        Check.done(y, 7, 0, 1, 2, 3);
+        y.begin();
+        for (int ref = 0; ref < 4; ref++) {
+            Check.due("add after MAX_UPDATES earlier ones", y.add(0, ref, 7 + ref, 0), RefTransactions.OK);
+        }
     }
 
+    /** A new OPEN slot neither holds a ref nor frees one. */
+    private static void heldRefsStayHeld() {
+        RefTransactions x = Check.busyStore();
+        int slot = x.begin();
+        x.add(slot, 3, RefTransactions.ANY, 1);
+        x.commit(slot);
+        Check.due("run into slot 3's lock", x.run(slot, 1), 0);
+        Check.due("begin()", x.begin(), slot);
+        x.add(slot, 2, RefTransactions.ANY, 1);
+        x.commit(slot);
+        Check.due("run into slot 2's lock", x.run(slot, 1), 0);
+    }
+
+    /** "begin is allowed while a pack is in progress." */
     private static void worksDuringAPack() {
-        RefTransactions x = new RefTransactions(4, 8, 1);
-        x.packStart();
-        x.packRun(1);
-        Check.due("begin() in a pack", x.begin(), 0);
-        Check.due("packProgress()", x.packProgress(), 1);
+        for (int done = 0; done < RefTransactions.PACK_STEPS; done++) {
+            RefTransactions x = Stores.packing(done);
+            String due = Check.view(x).replace(Check.slotText(2, RefTransactions.DONE, 6, 2),
+                Check.slotText(2, RefTransactions.OPEN, 0, 0));
+            Check.due("begin() at pack step " + done, x.begin(), 2);
+            Check.same("after begin at pack step " + done, Check.view(x), due);
+        }
     }
 
     private static void refusedWhileCrashed() {

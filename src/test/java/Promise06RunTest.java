@@ -1,62 +1,36 @@
-/** Promise 6: run takes the steps of a transaction one after another. */
+/** Promise 6, run itself: how many steps a call takes, what it answers, and when it is refused. */
 public final class Promise06RunTest {
     private static final int[] REFS = {5, 0, 7, 2};
 
     public static void main(String[] args) {
         Check.start();
         for (int updates = 1; updates <= RefTransactions.MAX_UPDATES; updates++) {
-            stepByStep(updates);
             anyCount(updates);
         }
-        refusesInOrder();
-        mismatches();
-        matches();
-        lockedComesBeforeMismatch();
-        holdersBlock();
-        endedSlotsDoNotBlock();
-        failureKeepsStepsAndGivesRefsBack();
-        lockStepLooksAtTheValueOfItsTime();
-        commitStepIsAllAtOnce();
-        logDropsItsOldest();
+        slotOutOfRange();
+        countBelowOne();
+        everyStatus();
+        firstFailingConditionIsAnswered();
+        firstStepFailsOnALock();
+        firstStepFailsOnAMismatch();
+        laterStepFails();
         refusedInAPack();
         refusedWhileCrashed();
         Check.end();
     }
 
-    private static int[] firstRefs(int updates) {
-        return java.util.Arrays.copyOf(REFS, updates);
-    }
-
-    private static void stepByStep(int updates) {
-        RefTransactions x = new RefTransactions(8, 8, 2);
-        int slot = Check.locking(x, 10, firstRefs(updates));
-        String empty = Check.values(x);
-        for (int step = 1; step <= 2 * updates + 2; step++) {
-            Check.due("run(slot, 1) for step " + step, x.run(slot, 1), 1);
-            int status = step <= updates ? RefTransactions.LOCKING
-                : step <= 2 * updates + 1 ? RefTransactions.COMMITTED : RefTransactions.DONE;
-            Check.same("after step " + step, Check.slot(x, slot), Check.slotText(slot, status, step, updates));
-            Check.due("logCount() after step " + step, x.logCount(), step <= updates ? 0 : updates);
-            if (step <= updates) {
-                Check.same("values after step " + step, Check.values(x), empty);
-            } else {
-                for (int n = 0; n < updates; n++) {
-                    Check.due("value after step " + step, x.value(REFS[n]), 10 + n);
-                    Check.due("log ref", x.logEntry(n, RefTransactions.LOG_REF), REFS[n]);
-                    Check.due("log old", x.logEntry(n, RefTransactions.LOG_OLD), 0);
-                    Check.due("log new", x.logEntry(n, RefTransactions.LOG_NEW), 10 + n);
-                }
-            }
-        }
-        Check.refused("run of a DONE slot", x, () -> x.run(slot, 1), RefTransactions.ERR_STATE);
-    }
-
+    /** "Any large count, up to Integer.MAX_VALUE, is accepted; steps simply stop at DONE" */
     private static void anyCount(int updates) {
         int all = 2 * updates + 2;
+        for (int count : new int[] {1, all - 1, all, all + 1, 1000, Integer.MAX_VALUE - 1, Integer.MAX_VALUE}) {
+            RefTransactions x = new RefTransactions(8, 8, 1);
+            Check.locking(x, 10, java.util.Arrays.copyOf(REFS, updates));
+            Check.due("run(0, " + count + ") from the start", x.run(0, count), Math.min(count, all));
+        }
         for (int first = 1; first <= all; first++) {
-            for (int count : new int[] {1, 2, all - 1, all, all + 1, Integer.MAX_VALUE}) {
+            for (int count : new int[] {1, 2, all - 1, all, all + 1, Integer.MAX_VALUE - 1, Integer.MAX_VALUE}) {
                 RefTransactions x = new RefTransactions(8, 8, 1);
-                Check.locking(x, 10, firstRefs(updates));
+                Check.locking(x, 10, java.util.Arrays.copyOf(REFS, updates));
                 Check.due("run(0, " + first + ")", x.run(0, first), first);
                 int left = all - first;
                 int due = left == 0 ? RefTransactions.ERR_STATE : Math.min(count, left);
@@ -66,188 +40,107 @@ public final class Promise06RunTest {
         }
     }
 
-    private static void refusesInOrder() {
+    /** "slot not in 0..S-1 -> ERR_SLOT" */
+    private static void slotOutOfRange() {
+        for (int slots = 1; slots <= 4; slots++) {
+            RefTransactions x = new RefTransactions(4, 8, slots);
+            for (int n = 0; n < slots; n++) {
+                Check.locking(x, 1, n);
+            }
+            for (int wrong : new int[] {Integer.MIN_VALUE, -2, -1, slots, slots + 1, Integer.MAX_VALUE}) {
+                Check.refused("run(" + wrong + ", 1)", x, () -> x.run(wrong, 1), RefTransactions.ERR_SLOT);
+            }
+            Check.due("run of the last slot", x.run(slots - 1, 1), 1);
+        }
+    }
+
+    /** "count < 1 -> ERR_COUNT" */
+    private static void countBelowOne() {
+        for (int status : new int[] {RefTransactions.LOCKING, RefTransactions.COMMITTED}) {
+            RefTransactions x = Stores.slotIn(status);
+            for (int wrong : new int[] {Integer.MIN_VALUE, Integer.MIN_VALUE + 1, -2, -1, 0}) {
+                Check.refused("run(0, " + wrong + ")", x, () -> x.run(0, wrong), RefTransactions.ERR_COUNT);
+            }
+            Check.due("run(0, 1)", x.run(0, 1), 1);
+        }
+    }
+
+    /** "status not LOCKING and not COMMITTED -> ERR_STATE" */
+    private static void everyStatus() {
+        for (int status : Stores.STATUSES) {
+            RefTransactions x = Stores.slotIn(status);
+            if (status == RefTransactions.LOCKING || status == RefTransactions.COMMITTED) {
+                int left = 6 - x.stepsDone(0);
+                Check.due("run of status " + status, x.run(0, Integer.MAX_VALUE), left);
+            } else {
+                Check.refused("run of status " + status, x, () -> x.run(0, 1), RefTransactions.ERR_STATE);
+                Check.refused("run of status " + status, x, () -> x.run(0, Integer.MAX_VALUE),
+                    RefTransactions.ERR_STATE);
+            }
+        }
+    }
+
+    /** Every two conditions that can fail together; the pack's are in refusedInAPack. */
+    private static void firstFailingConditionIsAnswered() {
         RefTransactions x = Check.busyStore();
         for (int wrong : new int[] {Integer.MIN_VALUE, -1, 4, Integer.MAX_VALUE}) {
-            Check.refused("run(" + wrong + ", 0)", x, () -> x.run(wrong, 0), RefTransactions.ERR_SLOT);
-            Check.refused("run(" + wrong + ", 1)", x, () -> x.run(wrong, 1), RefTransactions.ERR_SLOT);
+            Check.refused("slot before count", x, () -> x.run(wrong, 0), RefTransactions.ERR_SLOT);
+            Check.refused("slot before count", x, () -> x.run(wrong, Integer.MIN_VALUE), RefTransactions.ERR_SLOT);
         }
-        for (int slot = 0; slot < 4; slot++) {
-            int tried = slot;
-            for (int wrong : new int[] {Integer.MIN_VALUE, -1, 0}) {
-                Check.refused("run(" + slot + ", " + wrong + ")", x, () -> x.run(tried, wrong), RefTransactions.ERR_COUNT);
-            }
-        }
-        Check.refused("run of a DONE slot", x, () -> x.run(0, 1), RefTransactions.ERR_STATE);
-        Check.refused("run of an ABORTED_USER slot", x, () -> x.run(1, 1), RefTransactions.ERR_STATE);
-        RefTransactions y = new RefTransactions(4, 8, 3);
-        Check.refused("run of a FREE slot", y, () -> y.run(0, 1), RefTransactions.ERR_STATE);
-        Check.refused("run of a slot past S", y, () -> y.run(3, 1), RefTransactions.ERR_SLOT);
-        Check.open(y, 1, 0);
-        Check.refused("run of an OPEN slot", y, () -> y.run(0, 1), RefTransactions.ERR_STATE);
-    }
-
-    private static void mismatches() {
-        int[][] cases = {{0, 5}, {5, 0}, {5, 6}, {6, 5}, {Integer.MAX_VALUE, Integer.MAX_VALUE - 1}};
-        for (int[] c : cases) {
-            RefTransactions x = holding(c[0]);
-            x.begin();
-            x.add(0, 1, c[1], 77);
-            x.commit(0);
-            String before = Check.values(x) + Check.log(x);
-            Check.due("run expecting " + c[1] + " of " + c[0], x.run(0, 10), 0);
-            Check.same("the slot", Check.slot(x, 0), Check.slotText(0, RefTransactions.ABORTED_MISMATCH, 0, 1));
-            Check.same("values and log", Check.values(x) + Check.log(x), before);
-            Check.refused("run after a mismatch", x, () -> x.run(0, 1), RefTransactions.ERR_STATE);
+        for (int status : Stores.STATUSES) {
+            RefTransactions y = Stores.slotIn(status);
+            Check.refused("count before state " + status, y, () -> y.run(0, 0), RefTransactions.ERR_COUNT);
+            Check.refused("count before state " + status, y, () -> y.run(0, -1), RefTransactions.ERR_COUNT);
         }
     }
 
-    private static void matches() {
-        int[][] cases = {{0, 0}, {5, 5}, {0, RefTransactions.ANY}, {5, RefTransactions.ANY},
-            {Integer.MAX_VALUE, Integer.MAX_VALUE}};
-        for (int[] c : cases) {
-            for (int written : new int[] {0, 5, 77, Integer.MAX_VALUE}) {
-                RefTransactions x = holding(c[0]);
-                int entries = x.logCount();
-                x.begin();
-                x.add(0, 1, c[1], written);
-                x.commit(0);
-                Check.due("run expecting " + c[1] + " of " + c[0], x.run(0, 10), 4);
-                Check.due("value(1)", x.value(1), written);
-                Check.due("logCount()", x.logCount(), entries + 1);
-                Check.due("log old", x.logEntry(entries, RefTransactions.LOG_OLD), c[0]);
-                Check.due("log new", x.logEntry(entries, RefTransactions.LOG_NEW), written);
+    /** "run answers 0 when its very first step is a failing lock step": case (a), for any count. */
+    private static void firstStepFailsOnALock() {
+        for (int count : new int[] {1, 2, Integer.MAX_VALUE}) {
+            for (int holder : new int[] {RefTransactions.LOCKING, RefTransactions.COMMITTED}) {
+                RefTransactions x = Stores.slotIn(holder);
+                int slot = Check.locking(x, 50, 0, 7);
+                String due = Check.view(x).replace(Check.slotText(slot, RefTransactions.LOCKING, 0, 2),
+                    Check.slotText(slot, RefTransactions.ABORTED_LOCKED, 0, 2));
+                Check.due("run(" + slot + ", " + count + ")", x.run(slot, count), 0);
+                Check.same("after a first step that met a lock", Check.view(x), due);
             }
         }
     }
 
-    private static RefTransactions holding(int value) {
-        RefTransactions x = new RefTransactions(4, 8, 1);
-        if (value > 0) {
-            Check.done(x, value, 1);
-        }
-        return x;
-    }
-
-    private static void lockedComesBeforeMismatch() {
-        RefTransactions x = Check.busyStore();
-        int slot = x.begin();
-        x.add(slot, 2, 999, 1);
-        x.commit(slot);
-        Check.due("run", x.run(slot, 5), 0);
-        Check.due("status", x.status(slot), RefTransactions.ABORTED_LOCKED);
-    }
-
-    /** A LOCKING slot holds what it locked so far, a COMMITTED one all its refs until its finish step. */
-    private static void holdersBlock() {
-        int[] refs = {3, 1, 6};
-        for (int steps = 0; steps <= 8; steps++) {
-            for (int n = 0; n < refs.length; n++) {
-                for (int order = 0; order < 2; order++) {
-                    RefTransactions x = new RefTransactions(8, 8, 2);
-                    int holder = 0;
-                    if (order == 0) {
-                        Check.locking(x, 10, refs);
-                        Check.locking(x, 50, refs[n]);
-                    } else {
-                        Check.locking(x, 50, refs[n]);
-                        holder = Check.locking(x, 10, refs);
-                    }
-                    if (steps > 0) {
-                        x.run(holder, steps);
-                    }
-                    boolean held = steps > n && steps < 8;
-                    Check.due("run on ref " + n + " held at step " + steps, x.run(1 - holder, 1), held ? 0 : 1);
-                    Check.due("status", x.status(1 - holder),
-                        held ? RefTransactions.ABORTED_LOCKED : RefTransactions.LOCKING);
-                }
-            }
-        }
-    }
-
-    private static void endedSlotsDoNotBlock() {
-        RefTransactions x = new RefTransactions(8, 8, 4);
-        Check.locking(x, 10, 0, 1);
-        x.run(0, 2);
-        Check.locking(x, 20, 2, 0);
-        Check.due("run into a held ref", x.run(1, 5), 1);
-        Check.due("status", x.status(1), RefTransactions.ABORTED_LOCKED);
-        x.begin();
-        x.begin();
-        Check.due("the reopened slot is 1, so status 5 is gone", x.status(1), RefTransactions.OPEN);
-        x.add(2, 2, 0, 30);
-        x.add(2, 3, 9, 31);
-        x.commit(2);
-        Check.due("run into a mismatch", x.run(2, 5), 1);
-        Check.due("status", x.status(2), RefTransactions.ABORTED_MISMATCH);
-        x.add(1, 2, 0, 40);
-        x.commit(1);
-        Check.due("run over a ref both had locked", x.run(1, 5), 4);
-        Check.due("value(2)", x.value(2), 40);
-    }
-
-    private static void failureKeepsStepsAndGivesRefsBack() {
-        for (int before = 0; before < 4; before++) {
-            RefTransactions x = new RefTransactions(8, 8, 2);
+    /** The same of case (b). */
+    private static void firstStepFailsOnAMismatch() {
+        for (int count : new int[] {1, 2, Integer.MAX_VALUE}) {
+            RefTransactions x = Stores.slotIn(RefTransactions.LOCKING);
             int slot = x.begin();
-            for (int n = 0; n < 4; n++) {
-                x.add(slot, n, n == before ? 9 : 0, 1);
-            }
+            x.add(slot, 6, 1, 50);
+            x.add(slot, 7, 0, 51);
             x.commit(slot);
-            Check.due("run", x.run(slot, Integer.MAX_VALUE), before);
-            Check.same("all", Check.view(x), "values 0 0 0 0 0 0 0 0"
-                + Check.slotText(0, RefTransactions.ABORTED_MISMATCH, before, 4)
-                + Check.slotText(1, RefTransactions.FREE, 0, 0) + " log pack 3");
-            x.begin();
-            int other = Check.locking(x, 5, 0, 1, 2, 3);
-            Check.due("run over the refs given back", x.run(other, 20), 10);
+            String due = Check.view(x).replace(Check.slotText(slot, RefTransactions.LOCKING, 0, 2),
+                Check.slotText(slot, RefTransactions.ABORTED_MISMATCH, 0, 2));
+            Check.due("run(" + slot + ", " + count + ")", x.run(slot, count), 0);
+            Check.same("after a first step that met a mismatch", Check.view(x), due);
         }
     }
 
-    private static void lockStepLooksAtTheValueOfItsTime() {
-        RefTransactions x = new RefTransactions(4, 8, 2);
-        x.begin();
-        x.add(0, 0, 0, 1);
-        x.add(0, 1, 6, 2);
-        x.commit(0);
-        Check.due("run of the first lock step", x.run(0, 1), 1);
-        Check.done(x, 6, 1);
-        Check.due("run of the rest", x.run(0, 10), 5);
-        Check.same("the values", Check.values(x), "values 1 2 0 0");
+    /** "A run stops after the step in which the status became ABORTED_*": no later lock and no commit step is taken. */
+    private static void laterStepFails() {
+        for (int fails = 0; fails < 4; fails++) {
+            for (int count = 1; count <= 11; count++) {
+                RefTransactions x = new RefTransactions(8, 8, 2);
+                int holder = Check.locking(x, 10, fails);
+                x.run(holder, 1);
+                int slot = Check.locking(x, 50, 0, 1, 2, 3);
+                boolean met = count > fails;
+                Check.due("run(slot, " + count + ") into a lock at " + fails, x.run(slot, count), met ? fails : count);
+                Check.same("the slot", Check.slot(x, slot), Check.slotText(slot,
+                    met ? RefTransactions.ABORTED_LOCKED : RefTransactions.LOCKING, met ? fails : count, 4));
+                Check.same("values and log", Check.values(x) + Check.log(x), "values 0 0 0 0 0 0 0 0 log");
+            }
+        }
     }
 
-    private static void commitStepIsAllAtOnce() {
-        RefTransactions x = new RefTransactions(4, 8, 1);
-        Check.done(x, 1, 0, 1, 2, 3);
-        x.begin();
-        x.add(0, 3, 4, 2);
-        x.add(0, 2, 3, 0);
-        x.add(0, 1, RefTransactions.ANY, 4);
-        x.add(0, 0, 1, 1);
-        x.commit(0);
-        x.run(0, 4);
-        Check.same("before the commit step", Check.values(x) + Check.log(x),
-            "values 1 2 3 4 log (0 0 1) (1 0 2) (2 0 3) (3 0 4)");
-        x.run(0, 1);
-        Check.same("after the commit step", Check.values(x) + Check.log(x),
-            "values 1 4 0 2 log (0 0 1) (1 0 2) (2 0 3) (3 0 4) (3 4 2) (2 3 0) (1 2 4) (0 1 1)");
-        x.run(0, 10);
-        Check.same("after the finish step", Check.values(x) + Check.log(x),
-            "values 1 4 0 2 log (0 0 1) (1 0 2) (2 0 3) (3 0 4) (3 4 2) (2 3 0) (1 2 4) (0 1 1)");
-    }
-
-    private static void logDropsItsOldest() {
-        RefTransactions x = new RefTransactions(4, 10, 1);
-        Check.done(x, 10, 0, 1, 2, 3);
-        Check.done(x, 20, 0, 1, 2, 3);
-        Check.done(x, 30, 0, 1, 2, 3);
-        Check.same("the log", Check.log(x), " log (2 0 12) (3 0 13) (0 10 20) (1 11 21) (2 12 22) (3 13 23)"
-            + " (0 20 30) (1 21 31) (2 22 32) (3 23 33)");
-        Check.done(x, 40, 3);
-        Check.same("the log", Check.log(x), " log (3 0 13) (0 10 20) (1 11 21) (2 12 22) (3 13 23)"
-            + " (0 20 30) (1 21 31) (2 22 32) (3 23 33) (3 33 40)");
-    }
-
+    /** "a pack is in progress -> ERR_BUSY", after all other conditions. */
     private static void refusedInAPack() {
         RefTransactions x = new RefTransactions(4, 8, 2);
         Check.open(x, 1, 0);
@@ -256,6 +149,7 @@ public final class Promise06RunTest {
         x.commit(0);
         for (int n = 0; n < RefTransactions.PACK_STEPS; n++) {
             Check.refused("run in a pack", x, () -> x.run(0, 1), RefTransactions.ERR_BUSY);
+            Check.refused("run in a pack", x, () -> x.run(0, Integer.MAX_VALUE), RefTransactions.ERR_BUSY);
             Check.refused("run in a pack, wrong count", x, () -> x.run(0, 0), RefTransactions.ERR_COUNT);
             Check.refused("run in a pack, wrong slot", x, () -> x.run(2, 1), RefTransactions.ERR_SLOT);
             Check.refused("run in a pack, FREE slot", x, () -> x.run(1, 1), RefTransactions.ERR_STATE);
@@ -269,7 +163,9 @@ public final class Promise06RunTest {
         Check.locking(x, 1, 0);
         x.crash();
         Check.due("run crashed", x.run(0, 1), RefTransactions.ERR_CRASHED);
-        Check.due("run crashed", x.run(-1, 0), RefTransactions.ERR_CRASHED);
+        Check.due("run crashed, slot", x.run(1, 1), RefTransactions.ERR_CRASHED);
+        Check.due("run crashed, count", x.run(0, 0), RefTransactions.ERR_CRASHED);
+        Check.due("run crashed, both", x.run(-1, 0), RefTransactions.ERR_CRASHED);
         x.recover();
         Check.same("the slot", Check.slot(x, 0), Check.slotText(0, RefTransactions.ABORTED_CRASH, 0, 1));
     }

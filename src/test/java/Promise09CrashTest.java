@@ -7,14 +7,17 @@ public final class Promise09CrashTest {
                 atEveryStep(updates, steps);
             }
         }
+        everyStatus();
         settlesEverySlot();
         keepsAbortedSlots();
         givesTheRefsBack();
         endsAPack();
+        refusedWhileCrashed();
         shutsEveryCall();
         Check.end();
     }
 
+    /** "COMMITTED becomes DONE with stepsDone = 2k+2"; LOCKING keeps stepsDone; values and the reflog stay. */
     private static void atEveryStep(int updates, int steps) {
         RefTransactions x = new RefTransactions(8, 8, 1);
         Check.done(x, 3, 0, 1);
@@ -30,6 +33,24 @@ public final class Promise09CrashTest {
             ? Check.slotText(0, RefTransactions.ABORTED_CRASH, steps, updates)
             : Check.slotText(0, RefTransactions.DONE, 2 * updates + 2, updates));
         Check.same("values and log", Check.values(x) + Check.log(x), kept);
+    }
+
+    /** The document's table, status by status. */
+    private static void everyStatus() {
+        for (int status : Stores.STATUSES) {
+            RefTransactions x = Stores.slotIn(status);
+            String kept = Check.values(x) + Check.log(x);
+            int steps = x.stepsDone(0);
+            int updates = x.updateCount(0);
+            Check.due("crash() beside " + status, x.crash(), RefTransactions.OK);
+            x.recover();
+            boolean lost = status == RefTransactions.OPEN || status == RefTransactions.LOCKING;
+            boolean committed = status == RefTransactions.COMMITTED;
+            int due = lost ? RefTransactions.ABORTED_CRASH : committed ? RefTransactions.DONE : status;
+            Check.same("a slot that was " + status, Check.slot(x, 0),
+                Check.slotText(0, due, committed ? 6 : steps, updates));
+            Check.same("values and log beside " + status, Check.values(x) + Check.log(x), kept);
+        }
     }
 
     private static void settlesEverySlot() {
@@ -72,6 +93,7 @@ public final class Promise09CrashTest {
         }
     }
 
+    /** "Afterwards no slot holds any ref." */
     private static void givesTheRefsBack() {
         RefTransactions x = Check.busyStore();
         x.crash();
@@ -80,6 +102,7 @@ public final class Promise09CrashTest {
         Check.same("the values", Check.values(x), "values 10 11 80 81 82 0 0 0");
     }
 
+    /** "Any pack in progress ends without visible effect." */
     private static void endsAPack() {
         for (int steps = 0; steps < RefTransactions.PACK_STEPS; steps++) {
             RefTransactions x = new RefTransactions(8, 8, 2);
@@ -98,10 +121,24 @@ public final class Promise09CrashTest {
         }
     }
 
+    /** "crashed -> ERR_CRASHED", and the first crash is not undone or repeated by the second. */
+    private static void refusedWhileCrashed() {
+        for (int status : Stores.STATUSES) {
+            RefTransactions once = Stores.slotIn(status);
+            RefTransactions twice = Stores.slotIn(status);
+            once.crash();
+            twice.crash();
+            Check.due("crash() again", twice.crash(), RefTransactions.ERR_CRASHED);
+            Check.due("crash() once more", twice.crash(), RefTransactions.ERR_CRASHED);
+            Check.same("a crash refused beside " + status, Stores.future(twice), Stores.future(once));
+        }
+    }
+
+    /** "From then on every call except recover() answers ERR_CRASHED and changes nothing." */
     private static void shutsEveryCall() {
         RefTransactions x = Check.busyStore();
         x.crash();
-        for (int n = -2; n <= 9; n++) {
+        for (int n : Check.EDGES) {
             Check.due("crash() crashed", x.crash(), RefTransactions.ERR_CRASHED);
             Check.due("begin() crashed", x.begin(), RefTransactions.ERR_CRASHED);
             Check.due("add crashed", x.add(n, n, n, n), RefTransactions.ERR_CRASHED);
@@ -120,8 +157,6 @@ public final class Promise09CrashTest {
         }
         RefTransactions y = Check.busyStore();
         y.crash();
-        x.recover();
-        y.recover();
-        Check.same("refused calls changed nothing", Check.view(x), Check.view(y));
+        Check.same("refused calls changed nothing", Stores.future(x), Stores.future(y));
     }
 }

@@ -3,6 +3,9 @@ public final class Promise10RecoverTest {
     public static void main(String[] args) {
         Check.start();
         refusedUnlessCrashed();
+        refusedInEveryState();
+        nothingRunsAfterwards();
+        uncommittedShowNoEffect();
         showsCommittedTransactionsWhole();
         keepsTheLogThatWasPushedOn();
         crashesAgainAndAgain();
@@ -15,6 +18,47 @@ public final class Promise10RecoverTest {
         x.crash();
         Check.due("recover()", x.recover(), RefTransactions.OK);
         Check.refused("recover() a second time", x, x::recover, RefTransactions.ERR_STATE);
+    }
+
+    private static void refusedInEveryState() {
+        Stores.all().forEach((state, maker) -> {
+            RefTransactions x = maker.get();
+            Check.refused("recover() with " + state, x, x::recover, RefTransactions.ERR_STATE);
+        });
+    }
+
+    /** "right after recover(), no slot is LOCKING or COMMITTED, no pack is in progress" */
+    private static void nothingRunsAfterwards() {
+        Stores.all().forEach((state, maker) -> {
+            RefTransactions x = maker.get();
+            Check.due("crash() with " + state, x.crash(), RefTransactions.OK);
+            Check.due("recover() with " + state, x.recover(), RefTransactions.OK);
+            for (int slot = 0; x.status(slot) >= 0; slot++) {
+                int tried = slot;
+                Check.refused("run with " + state, x, () -> x.run(tried, 1), RefTransactions.ERR_STATE);
+                Check.refused("abort with " + state, x, () -> x.abort(tried), RefTransactions.ERR_STATE);
+            }
+            Check.due("packProgress() with " + state, x.packProgress(), RefTransactions.PACK_STEPS);
+            Check.refused("packRun(1) with " + state, x, () -> x.packRun(1), RefTransactions.ERR_STATE);
+            Check.due("begin() with " + state, x.begin(), 0);
+            Check.due("packStart() with " + state, x.packStart(), RefTransactions.OK);
+        });
+    }
+
+    /** "A transaction that had not completed its commit step shows no effect": up to the very step before it. */
+    private static void uncommittedShowNoEffect() {
+        for (int updates = 1; updates <= RefTransactions.MAX_UPDATES; updates++) {
+            RefTransactions x = new RefTransactions(8, 8, 1);
+            Check.done(x, 5, 3, 2);
+            String before = Check.values(x) + Check.log(x);
+            Check.locking(x, 10, java.util.Arrays.copyOf(new int[] {0, 1, 2, 3}, updates));
+            x.run(0, updates);
+            x.crash();
+            x.recover();
+            Check.same("values and log", Check.values(x) + Check.log(x), before);
+            Check.same("the slot", Check.slot(x, 0),
+                Check.slotText(0, RefTransactions.ABORTED_CRASH, updates, updates));
+        }
     }
 
     private static void showsCommittedTransactionsWhole() {
@@ -33,6 +77,7 @@ public final class Promise10RecoverTest {
         Check.due("packStart()", x.packStart(), RefTransactions.OK);
     }
 
+    /** "its entries are there unless later commit steps had already pushed them out" */
     private static void keepsTheLogThatWasPushedOn() {
         RefTransactions x = new RefTransactions(16, 8, 3);
         Check.committed(x, 10, 0, 1, 2, 3);

@@ -4,6 +4,7 @@ public final class Promise11ValueTest {
         Check.start();
         tellsSetAndDeletedRefs();
         refusesWrongRefs();
+        refusedWhileCrashed();
         Check.end();
     }
 
@@ -25,15 +26,29 @@ public final class Promise11ValueTest {
         Check.same("after value", Check.view(x), before);
     }
 
+    /** "ref not in 0..R-1 -> ERR_REF" */
     private static void refusesWrongRefs() {
-        for (int refs : new int[] {4, 9, 16}) {
+        for (int refs = 4; refs <= 16; refs++) {
             RefTransactions x = new RefTransactions(refs, 8, 1);
-            for (int wrong : new int[] {Integer.MIN_VALUE, -1, refs, refs + 1, 17, Integer.MAX_VALUE}) {
+            Check.done(x, 5, 0, refs - 1);
+            for (int wrong : new int[] {Integer.MIN_VALUE, Integer.MIN_VALUE + 1, -16, -2, -1, refs, refs + 1, 16, 17,
+                Integer.MAX_VALUE}) {
                 Check.refused("value(" + wrong + ") of " + refs, x, () -> x.value(wrong), RefTransactions.ERR_REF);
             }
-            x.crash();
-            Check.due("value(0) crashed", x.value(0), RefTransactions.ERR_CRASHED);
-            Check.due("value(-1) crashed", x.value(-1), RefTransactions.ERR_CRASHED);
+            Check.due("value(0)", x.value(0), 5);
+            Check.due("value(R - 1)", x.value(refs - 1), 6);
         }
+    }
+
+    /** "crashed -> ERR_CRASHED" comes before a wrong ref. */
+    private static void refusedWhileCrashed() {
+        RefTransactions x = new RefTransactions(4, 8, 1);
+        Check.done(x, 5, 0);
+        x.crash();
+        for (int ref : Check.EDGES) {
+            Check.due("value(" + ref + ") crashed", x.value(ref), RefTransactions.ERR_CRASHED);
+        }
+        x.recover();
+        Check.due("value(0) recovered", x.value(0), 5);
     }
 }

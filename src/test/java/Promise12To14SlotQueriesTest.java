@@ -1,10 +1,9 @@
-import java.util.function.IntBinaryOperator;
-
 /** Promises 12, 13 and 14: status, stepsDone and updateCount of a slot. */
 public final class Promise12To14SlotQueriesTest {
     public static void main(String[] args) {
         Check.start();
         tellEveryStatus();
+        tellEveryStatusOfEachKind();
         tellEveryCount();
         refuseWrongSlots();
         Check.end();
@@ -45,6 +44,13 @@ public final class Promise12To14SlotQueriesTest {
         tells(x, 3, RefTransactions.ABORTED_USER, 0, 0);
     }
 
+    private static void tellEveryStatusOfEachKind() {
+        int[] steps = {0, 0, 1, 3, 6, 1, 1, 1, 1};
+        for (int status : Stores.STATUSES) {
+            tells(Stores.slotIn(status), 0, status, steps[status], status == RefTransactions.FREE ? 0 : 2);
+        }
+    }
+
     private static void tells(RefTransactions x, int slot, int status, int steps, int updates) {
         String before = Check.view(x);
         Check.due("status(" + slot + ")", x.status(slot), status);
@@ -53,6 +59,7 @@ public final class Promise12To14SlotQueriesTest {
         Check.same("after the queries", Check.view(x), before);
     }
 
+    /** "the slot's number of updates (0..MAX_UPDATES)" */
     private static void tellEveryCount() {
         RefTransactions x = new RefTransactions(8, 8, 1);
         x.begin();
@@ -63,23 +70,26 @@ public final class Promise12To14SlotQueriesTest {
         Check.due("updateCount(0) after a refused add", x.updateCount(0), RefTransactions.MAX_UPDATES);
     }
 
+    /** "slot not in 0..S-1 -> ERR_SLOT", after "crashed -> ERR_CRASHED", of all three. */
     private static void refuseWrongSlots() {
         for (int slots = 1; slots <= 4; slots++) {
             RefTransactions x = new RefTransactions(4, 8, slots);
-            IntBinaryOperator query = (which, slot) -> which == 0 ? x.status(slot)
-                : which == 1 ? x.stepsDone(slot) : x.updateCount(slot);
-            for (int which = 0; which < 3; which++) {
-                int asked = which;
-                for (int wrong : new int[] {Integer.MIN_VALUE, -1, slots, 5, Integer.MAX_VALUE}) {
-                    Check.refused("query " + which + " of slot " + wrong, x,
-                        () -> query.applyAsInt(asked, wrong), RefTransactions.ERR_SLOT);
-                }
-                Check.due("query " + which + " of the last slot", query.applyAsInt(which, slots - 1), 0);
+            for (int wrong : new int[] {Integer.MIN_VALUE, Integer.MIN_VALUE + 1, -4, -2, -1, slots, slots + 1, 4, 5,
+                Integer.MAX_VALUE}) {
+                Check.refused("status(" + wrong + ")", x, () -> x.status(wrong), RefTransactions.ERR_SLOT);
+                Check.refused("stepsDone(" + wrong + ")", x, () -> x.stepsDone(wrong), RefTransactions.ERR_SLOT);
+                Check.refused("updateCount(" + wrong + ")", x, () -> x.updateCount(wrong), RefTransactions.ERR_SLOT);
             }
+            for (int n = 0; n < slots; n++) {
+                Check.committed(x, 1, n);
+            }
+            tells(x, 0, RefTransactions.COMMITTED, 2, 1);
+            tells(x, slots - 1, RefTransactions.COMMITTED, 2, 1);
             x.crash();
-            for (int which = 0; which < 3; which++) {
-                Check.due("query " + which + " crashed", query.applyAsInt(which, 0), RefTransactions.ERR_CRASHED);
-                Check.due("query " + which + " crashed", query.applyAsInt(which, -1), RefTransactions.ERR_CRASHED);
+            for (int slot : Check.EDGES) {
+                Check.due("status(" + slot + ") crashed", x.status(slot), RefTransactions.ERR_CRASHED);
+                Check.due("stepsDone(" + slot + ") crashed", x.stepsDone(slot), RefTransactions.ERR_CRASHED);
+                Check.due("updateCount(" + slot + ") crashed", x.updateCount(slot), RefTransactions.ERR_CRASHED);
             }
         }
     }

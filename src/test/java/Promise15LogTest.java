@@ -12,7 +12,9 @@ public final class Promise15LogTest {
                 staysInStepWithAList(cap, updates);
             }
         }
-        refusesWrongIndexes();
+        refusesWrongEntries();
+        refusesWrongFields();
+        tellsTheLeastAndTheGreatest();
         refusedWhileCrashed();
         Check.end();
     }
@@ -46,34 +48,69 @@ public final class Promise15LogTest {
         }
     }
 
-    private static void refusesWrongIndexes() {
-        RefTransactions x = new RefTransactions(4, 8, 1);
-        Check.due("logCount()", x.logCount(), 0);
-        Check.refused("logEntry(0, 0) of an empty log", x, () -> x.logEntry(0, 0), RefTransactions.ERR_INDEX);
-        for (int n = 1; n <= 12; n++) {
-            Check.done(x, n, 1);
-            int count = Math.min(n, 8);
-            for (int wrong : new int[] {Integer.MIN_VALUE, -1, count, count + 1, 32, Integer.MAX_VALUE}) {
-                for (int field = -1; field <= 3; field++) {
-                    int asked = field;
-                    Check.refused("logEntry(" + wrong + ", " + field + ")", x,
-                        () -> x.logEntry(wrong, asked), RefTransactions.ERR_INDEX);
+    /** "i not in 0..logCount-1 -> ERR_INDEX": an empty, a part-filled, a full and a wrapped reflog. */
+    private static void refusesWrongEntries() {
+        for (int cap : new int[] {8, 9, 32}) {
+            RefTransactions x = new RefTransactions(4, cap, 1);
+            for (int n = 0; n <= 2 * cap + 1; n++) {
+                int count = Math.min(n, cap);
+                Check.due("logCount()", x.logCount(), count);
+                for (int wrong : new int[] {Integer.MIN_VALUE, Integer.MIN_VALUE + 1, -cap, -2, -1, count, count + 1,
+                    cap, cap + 1, 33, Integer.MAX_VALUE - 1, Integer.MAX_VALUE}) {
+                    for (int field = 0; field <= 2; field++) {
+                        int asked = field;
+                        Check.refused("logEntry(" + wrong + ", " + field + ") of " + count, x,
+                            () -> x.logEntry(wrong, asked), RefTransactions.ERR_INDEX);
+                    }
                 }
-            }
-            for (int wrong : new int[] {Integer.MIN_VALUE, -1, 3, 4, Integer.MAX_VALUE}) {
-                Check.refused("logEntry(0, " + wrong + ")", x, () -> x.logEntry(0, wrong), RefTransactions.ERR_INDEX);
-                Check.refused("logEntry(last, " + wrong + ")", x,
-                    () -> x.logEntry(count - 1, wrong), RefTransactions.ERR_INDEX);
+                if (n > 0) {
+                    Check.due("the newest entry", x.logEntry(count - 1, RefTransactions.LOG_NEW), n);
+                    Check.due("the oldest entry", x.logEntry(0, RefTransactions.LOG_NEW), n - count + 1);
+                }
+                Check.done(x, n + 1, 1);
             }
         }
     }
 
+    /** "field not in 0..2 -> ERR_INDEX", for the oldest and the newest entry, and for an entry that is wrong, too. */
+    private static void refusesWrongFields() {
+        RefTransactions x = new RefTransactions(4, 8, 1);
+        for (int n = 0; n < 12; n++) {
+            int newest = x.logCount() - 1;
+            for (int wrong : new int[] {Integer.MIN_VALUE, Integer.MIN_VALUE + 1, -2, -1, 3, 4, Integer.MAX_VALUE}) {
+                for (int entry : new int[] {0, newest, newest + 1, -1}) {
+                    Check.refused("logEntry(" + entry + ", " + wrong + ")", x,
+                        () -> x.logEntry(entry, wrong), RefTransactions.ERR_INDEX);
+                }
+            }
+            Check.done(x, n, 1);
+        }
+    }
+
+    /** An entry of ref 0, of value 0, and of the greatest value is an answer like any other. */
+    private static void tellsTheLeastAndTheGreatest() {
+        RefTransactions x = new RefTransactions(16, 8, 1);
+        Check.done(x, Integer.MAX_VALUE, 0);
+        Check.done(x, 0, 0);
+        Check.done(x, Integer.MAX_VALUE, 15);
+        Check.done(x, 0, 7);
+        Check.same("the log", Check.log(x),
+            " log (0 0 2147483647) (0 2147483647 0) (15 0 2147483647) (7 0 0)");
+    }
+
+    /** "crashed -> ERR_CRASHED" comes before a wrong entry or field. */
     private static void refusedWhileCrashed() {
         RefTransactions x = new RefTransactions(4, 8, 1);
         Check.done(x, 1, 1);
         x.crash();
         Check.due("logCount() crashed", x.logCount(), RefTransactions.ERR_CRASHED);
-        Check.due("logEntry(0, 0) crashed", x.logEntry(0, 0), RefTransactions.ERR_CRASHED);
-        Check.due("logEntry(-1, 9) crashed", x.logEntry(-1, 9), RefTransactions.ERR_CRASHED);
+        for (int entry : Check.EDGES) {
+            for (int field : Check.EDGES) {
+                Check.due("logEntry(" + entry + ", " + field + ") crashed", x.logEntry(entry, field),
+                    RefTransactions.ERR_CRASHED);
+            }
+        }
+        x.recover();
+        Check.same("the log recovered", Check.log(x), " log (1 0 1)");
     }
 }
