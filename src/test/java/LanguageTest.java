@@ -19,6 +19,8 @@ public final class LanguageTest {
         "synchronized", "assert", "instanceof", "native", "volatile", "transient", "var"};
     private static final Pattern METHOD = Pattern.compile(
         "(?m)^ {4}(public|private)( static)?( \\w+(?:\\[\\])?)? (\\w+)\\(([^)]*)\\) \\{$");
+    private static final Pattern LOOP = Pattern.compile(
+        "\\bfor \\(int (\\w+) = 0; \\1 < (\\w+)(?: &&[^;]*)?; \\1\\+\\+\\) \\{");
     private static final Pattern CALL = Pattern.compile("\\b([A-Za-z_]\\w*)\\(");
     private static final Set<String> WORDS = Set.of("if", "for", "while", "switch", "return");
     private static final int MOST_LINES = 60;
@@ -61,7 +63,7 @@ public final class LanguageTest {
     /** Stricter than rule 8, so that the text alone shows each loop's end: one counter from 0 against one bound. */
     private static void loops(String code) {
         Check.due("while and do loops", count(code, "\\b(?:while|do)\\b"), 0);
-        Matcher loop = Pattern.compile("\\bfor \\(int (\\w+) = 0; \\1 < (\\w+)(?: &&[^;]*)?; \\1\\+\\+\\) \\{").matcher(code);
+        Matcher loop = LOOP.matcher(code);
         int ended = 0;
         while (loop.find()) {
             ended++;

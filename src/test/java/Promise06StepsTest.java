@@ -6,6 +6,7 @@ public final class Promise06StepsTest {
         Check.start();
         for (int updates = 1; updates <= RefTransactions.MAX_UPDATES; updates++) {
             stepByStep(updates);
+            lockApplyAndFinishStepsOnlyCount(updates);
         }
         mismatches();
         matches();
@@ -46,6 +47,24 @@ public final class Promise06StepsTest {
             }
         }
         Check.refused("run of a DONE slot", x, () -> x.run(slot, 1), RefTransactions.ERR_STATE);
+    }
+
+    /** "Lock steps and apply steps change no value and no reflog entry"; the finish step changes its slot alone. */
+    private static void lockApplyAndFinishStepsOnlyCount(int updates) {
+        RefTransactions x = new RefTransactions(8, 8, 3);
+        Check.done(x, 1, 0, 1, 2, 3);
+        Check.done(x, 5, 4, 5, 6, 7);
+        int slot = Check.locking(x, 90, firstRefs(updates));
+        Check.open(x, 95, 1);
+        for (int step = 1; step <= 2 * updates + 2; step++) {
+            String before = Check.view(x);
+            String own = Check.slot(x, slot);
+            Check.due("run", x.run(slot, 1), 1);
+            if (step != updates + 1) {
+                Check.same("after step " + step + " of " + updates, Check.view(x),
+                    before.replace(own, Check.slot(x, slot)));
+            }
+        }
     }
 
     /** Case (b), at the edges: a missing ref, a ref that exists, and values that differ by one. */
