@@ -43,6 +43,9 @@ public final class RefTransactions {
     private final int logLimit;
     private final int slotCount;
 
+    // No index leaves its array, because every call keeps these bounds: slotUpdates 0..MAX_UPDATES; slotSteps 0..2k+2
+    // for k updates, and 0..k while LOCKING; updateRef 0..refCount-1; logStart 0..logLimit-1; logSize 0..logLimit.
+
     private final int[] refValue = new int[MOST_REFS];
 
     private final int[] slotStatus = new int[MOST_SLOTS];
@@ -166,7 +169,9 @@ public final class RefTransactions {
             return ERR_BUSY;
         }
         int before = slotSteps[slot];
-        for (int i = 0; i < count && isRunning(slot); i++) {
+        int left = lastStep(slotUpdates[slot]) - before;
+        int most = count < left ? count : left;
+        for (int i = 0; i < most && isRunning(slot); i++) {
             takeStep(slot);
         }
         return slotSteps[slot] - before;

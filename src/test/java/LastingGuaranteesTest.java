@@ -14,14 +14,14 @@ public final class LastingGuaranteesTest {
 
     private final RefTransactions x;
     private final int cap;
-    private long sequence;
+    private final Sequence sequence;
     private final List<List<int[]>> updates = new ArrayList<>();
     private final int[] lastWritten = new int[REFS];
     private final List<int[]> written = new ArrayList<>();
     private final int[] ends = new int[9];
 
     private LastingGuaranteesTest(int seed) {
-        sequence = 77L + seed;
+        sequence = new Sequence(77L + seed);
         cap = 8 + seed % 25;
         x = new RefTransactions(REFS, cap, SLOTS);
         for (int slot = 0; slot < SLOTS; slot++) {
@@ -43,11 +43,6 @@ public final class LastingGuaranteesTest {
             Check.due("slots seen to end as " + status + ", enough of them", ends[status] > 100 ? 1 : 0, 1);
         }
         Check.end();
-    }
-
-    private int next(int bound) {
-        sequence = sequence * 6364136223846793005L + 1442695040888963407L;
-        return (int) ((sequence >>> 33) % bound);
     }
 
     private void play() {
@@ -86,17 +81,17 @@ public final class LastingGuaranteesTest {
 
     /** Whether a transaction completed its commit step in the call. A crash is recovered from at once. */
     private boolean makeCall() {
-        int slot = next(SLOTS);
-        switch (next(10)) {
+        int slot = sequence.next(SLOTS);
+        switch (sequence.next(10)) {
             case 0, 1 -> noteBegin(x.begin());
-            case 2, 3, 4 -> noteAdd(slot, next(REFS), next(4) - 1, next(3));
+            case 2, 3, 4 -> noteAdd(slot, sequence.next(REFS), sequence.next(4) - 1, sequence.next(3));
             case 5 -> x.commit(slot);
             case 6, 7 -> {
-                return noteRun(slot, 1 + next(11));
+                return noteRun(slot, 1 + sequence.next(11));
             }
             case 8 -> disturb();
             default -> {
-                if (next(8) == 0) {
+                if (sequence.next(8) == 0) {
                     x.abort(slot);
                 }
             }
@@ -112,7 +107,7 @@ public final class LastingGuaranteesTest {
 
     private void noteAdd(int slot, int ref, int expected, int newValue) {
         // Mostly what the ref holds, or most transactions would end in a mismatch.
-        int asked = next(2) == 0 ? x.value(ref) : expected;
+        int asked = sequence.next(2) == 0 ? x.value(ref) : expected;
         if (x.add(slot, ref, asked, newValue) == RefTransactions.OK) {
             updates.get(slot).add(new int[] {ref, newValue});
         }
@@ -133,11 +128,11 @@ public final class LastingGuaranteesTest {
     }
 
     private void disturb() {
-        int kind = next(12);
+        int kind = sequence.next(12);
         if (kind < 3) {
             x.packStart();
         } else if (kind < 11) {
-            x.packRun(1 + next(3));
+            x.packRun(1 + sequence.next(3));
         } else {
             Check.due("crash()", x.crash(), RefTransactions.OK);
             Check.due("recover()", x.recover(), RefTransactions.OK);

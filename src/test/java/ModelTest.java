@@ -15,7 +15,7 @@ public final class ModelTest {
     private static final int[] WRONG = {Integer.MIN_VALUE, -1, 3, 4, 16, 32, Integer.MAX_VALUE};
 
     private final int seed;
-    private long sequence;
+    private final Sequence sequence;
     private RefTransactions x;
     private Model model;
     private int refs;
@@ -23,7 +23,7 @@ public final class ModelTest {
 
     private ModelTest(int seed) {
         this.seed = seed;
-        sequence = seed * 0x9E3779B97F4A7C15L + 1;
+        sequence = new Sequence(seed * 0x9E3779B97F4A7C15L + 1);
     }
 
     public static void main(String[] args) {
@@ -34,28 +34,19 @@ public final class ModelTest {
         Check.end();
     }
 
-    private int next(int bound) {
-        sequence = sequence * 6364136223846793005L + 1442695040888963407L;
-        return (int) ((sequence >>> 33) % bound);
-    }
-
-    private int oneOf(int[] choices) {
-        return choices[next(choices.length)];
-    }
-
     private int someSlot() {
-        return next(30) == 0 ? oneOf(WRONG) : next(slots);
+        return sequence.next(30) == 0 ? sequence.oneOf(WRONG) : sequence.next(slots);
     }
 
     /** Mostly few refs, so that transactions meet each other's locks. */
     private int someRef() {
-        return next(30) == 0 ? oneOf(WRONG) : next(next(3) == 0 ? refs : 4);
+        return sequence.next(30) == 0 ? sequence.oneOf(WRONG) : sequence.next(sequence.next(3) == 0 ? refs : 4);
     }
 
     private void runOne() {
-        int refsAsked = oneOf(SIZES);
-        int logAsked = oneOf(SIZES);
-        int slotsAsked = next(2) == 0 ? 4 : oneOf(SIZES);
+        int refsAsked = sequence.oneOf(SIZES);
+        int logAsked = sequence.oneOf(SIZES);
+        int slotsAsked = sequence.next(2) == 0 ? 4 : sequence.oneOf(SIZES);
         x = new RefTransactions(refsAsked, logAsked, slotsAsked);
         model = new Model(refsAsked, logAsked, slotsAsked);
         refs = Math.max(4, Math.min(16, refsAsked));
@@ -69,19 +60,19 @@ public final class ModelTest {
     }
 
     private void makeCall(String at) {
-        if (model.isCrashed() && next(3) == 0) {
+        if (model.isCrashed() && sequence.next(3) == 0) {
             Check.due(at + "recover()", x.recover(), model.recover());
             return;
         }
         int slot = someSlot();
-        int count = oneOf(COUNTS);
-        int kind = next(100);
+        int count = sequence.oneOf(COUNTS);
+        int kind = sequence.next(100);
         if (kind < 15) {
             Check.due(at + "begin()", x.begin(), model.begin());
         } else if (kind < 45) {
             int ref = someRef();
-            int value = oneOf(VALUES);
-            int expected = next(3) == 0 ? model.value(ref) : oneOf(EXPECTED);
+            int value = sequence.oneOf(VALUES);
+            int expected = sequence.next(3) == 0 ? model.value(ref) : sequence.oneOf(EXPECTED);
             Check.due(at + "add(" + slot + ", " + ref + ", " + expected + ", " + value + ")",
                 x.add(slot, ref, expected, value), model.add(slot, ref, expected, value));
         } else if (kind < 58) {
