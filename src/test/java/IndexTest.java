@@ -3,8 +3,8 @@ import java.util.function.ToIntFunction;
 
 /**
  * Rule 7 of ../shared/LANGUAGE.md: "No call may ever throw or fail to end, for any arguments in any state". A new store
- * keeps the bounds that the program tells above its arrays; in states set from within, no call throws within them or
- * leaves them. So no run of calls can, however long.
+ * keeps the bounds that the program tells above its arrays; in many states set from within these bounds, whether calls
+ * reach them or not, no call with edge arguments throws or leaves the bounds.
  */
 public final class IndexTest {
     private static final int STATES = 600;
